@@ -1,75 +1,93 @@
-// Promise 1: every seed is taken, the row is seeded from it, and no sprite is shown.
+// Promise 1, sentence by sentence.
 public final class ConstructionTest {
-    private static final int[] SEEDS = {
-        0, 1, 2, 5, -1, -2, 255, 256, 8191, 8192, 32767, 32768, 65535, 65536, 65537,
-        -65535, -65536, -65537, 1 << 29, 1 << 30, 0x12345678, -0x12345678,
-        Integer.MAX_VALUE - 1, Integer.MAX_VALUE, Integer.MIN_VALUE, Integer.MIN_VALUE + 1
-    };
-
-    private static void newRow(int seed, int... row) {
-        Answers.dueRow("seed " + seed, new SaveUnder(seed), row);
-    }
-
-    private static void rowsOfTheDocument() {
-        newRow(1, 1, 2, 3, 4, 5, 6, 7, 8);
-        newRow(-1, 65535, 65534, 65533, 65532, 65531, 65530, 65529, 65528);
-        newRow(0, 0, 0, 0, 0, 0, 0, 0, 0);
-        newRow(65536, 0, 0, 0, 0, 0, 0, 0, 0);
-    }
-
-    private static void rowsAtTheEdges() {
-        newRow(Integer.MIN_VALUE, 0, 0, 0, 0, 0, 0, 0, 0);
-        newRow(Integer.MAX_VALUE, 65535, 65534, 65533, 65532, 65531, 65530, 65529, 65528);
-        newRow(32768, 32768, 0, 32768, 0, 32768, 0, 32768, 0);
-        newRow(65535, 65535, 65534, 65533, 65532, 65531, 65530, 65529, 65528);
-        newRow(65537, 1, 2, 3, 4, 5, 6, 7, 8);
-    }
-
-    // The low 16 bits are the same whether the product wraps at 32 bits or not,
-    // so a long product is a due answer that does not repeat the program's own sum.
-    private static int[] seededRow(int seed) {
-        int[] row = new int[8];
-        for (int i = 0; i < 8; i++) {
-            row[i] = (int) Math.floorMod((long) seed * (i + 1), 65536L);
-        }
-        return row;
-    }
-
-    private static void rowOfEverySeed() {
-        for (int seed : SEEDS) {
-            newRow(seed, seededRow(seed));
-        }
-    }
-
-    private static void noSpriteAtTheStart() {
-        for (int seed : SEEDS) {
+    private static void everySeed() {
+        Answers.acrossAllInts(seed -> {
             SaveUnder object = new SaveUnder(seed);
-            Answers.due("seed " + seed + ": first hide()", object.hide(), -1);
-            Answers.dueRow("seed " + seed + " after hide()", object, seededRow(seed));
-            Answers.due("seed " + seed + ": second hide()", object.hide(), -1);
-        }
+            int[] row = Run.seeded(seed);
+            for (int i = 0; i < 8; i++) {
+                if (object.peek(i) != row[i]) {
+                    Answers.due("new SaveUnder(" + seed + "), peek(" + i + ")", object.peek(i), row[i]);
+                }
+            }
+        });
     }
 
-    private static void objectsDoNotShareState() {
-        SaveUnder one = new SaveUnder(1);
-        SaveUnder two = new SaveUnder(2);
-        Answers.due("one.show(0, 99)", one.show(0, 99), 4);
-        Answers.dueRow("two beside one's sprite", two, 2, 4, 6, 8, 10, 12, 14, 16);
-        Answers.due("two.hide() beside one's sprite", two.hide(), -1);
-        Answers.due("two.show(1, 77)", two.show(1, 77), 4);
-        Answers.dueRow("one beside two's sprite", one, 99, 99, 99, 99, 5, 6, 7, 8);
-        Answers.due("one.hide()", one.hide(), 0);
-        Answers.due("two.hide()", two.hide(), 1);
-        Answers.dueRow("one at the end", one, 1, 2, 3, 4, 5, 6, 7, 8);
-        Answers.dueRow("two at the end", two, 2, 4, 6, 8, 10, 12, 14, 16);
+    private static void seedsAtTheEnds() {
+        new Run(0).row(0, 0, 0, 0, 0, 0, 0, 0);
+        new Run(-3).row(65533, 65530, 65527, 65524, 65521, 65518, 65515, 65512);
+        new Run(Integer.MIN_VALUE).row(0, 0, 0, 0, 0, 0, 0, 0);
+        new Run(Integer.MIN_VALUE + 1).row(1, 2, 3, 4, 5, 6, 7, 8);
+        new Run(Integer.MAX_VALUE).row(65535, 65534, 65533, 65532, 65531, 65530, 65529, 65528);
+    }
+
+    // No product here leaves int: what is cut off is cut off by the 16 bits alone.
+    private static void lowBitsOfTheProduct() {
+        new Run(8191).row(8191, 16382, 24573, 32764, 40955, 49146, 57337, 65528);
+        new Run(8192).row(8192, 16384, 24576, 32768, 40960, 49152, 57344, 0);
+        new Run(32768).row(32768, 0, 32768, 0, 32768, 0, 32768, 0);
+        new Run(40000).row(40000, 14464, 54464, 28928, 3392, 43392, 17856, 57856);
+        new Run(65535).row(65535, 65534, 65533, 65532, 65531, 65530, 65529, 65528);
+        new Run(65537).row(1, 2, 3, 4, 5, 6, 7, 8);
+        new Run(-65537).row(65535, 65534, 65533, 65532, 65531, 65530, 65529, 65528);
+    }
+
+    // A product that stopped at the greatest int would leave 65535, one at the least int 0.
+    private static void productsWrapAround() {
+        new Run(0x0FFFFFFF).row(65535, 65534, 65533, 65532, 65531, 65530, 65529, 65528);
+        new Run(0x10000003).row(3, 6, 9, 12, 15, 18, 21, 24);
+        new Run(0x2AAAAAAB).row(0xAAAB, 0x5556, 1, 0xAAAC, 0x5557, 2, 0xAAAD, 0x5558);
+        new Run(0x40000001).row(1, 2, 3, 4, 5, 6, 7, 8);
+        new Run(-0x40000001).row(65535, 65534, 65533, 65532, 65531, 65530, 65529, 65528);
+        new Run(0x7FFF0005).row(5, 10, 15, 20, 25, 30, 35, 40);
+    }
+
+    private static void seedOne() {
+        new Run(1).row(1, 2, 3, 4, 5, 6, 7, 8);
+    }
+
+    private static void seedMinusOne() {
+        new Run(-1).row(65535, 65534, 65533, 65532, 65531, 65530, 65529, 65528);
+    }
+
+    private static void seedZero() {
+        new Run(0).row(0, 0, 0, 0, 0, 0, 0, 0);
+    }
+
+    private static void seed65536() {
+        new Run(65536).row(0, 0, 0, 0, 0, 0, 0, 0);
+    }
+
+    // A sprite that was there from the start would be put back by the first show,
+    // with saved pixels that nobody saved.
+    private static void noSpriteIsShown() {
+        for (int x = 0; x < 8; x++) {
+            new Run(9).show(x, 1000, Run.width(x)).row(Run.painted(9, x, 1000));
+        }
+        new Run(9).show(-1, 1000, 0).row(9, 18, 27, 36, 45, 54, 63, 72);
+    }
+
+    private static void firstHide() {
+        for (int seed : new int[] {9, 0, -1, Integer.MIN_VALUE, Integer.MAX_VALUE}) {
+            new Run(seed).hide(-1).row(Run.seeded(seed)).hide(-1);
+            new Run(seed).hide(-1).show(6, 1000, 2).row(Run.painted(seed, 6, 1000)).hide(6);
+        }
     }
 
     public static void main(String[] args) {
-        rowsOfTheDocument();
-        rowsAtTheEdges();
-        rowOfEverySeed();
-        noSpriteAtTheStart();
-        objectsDoNotShareState();
+        Answers.sentence("new SaveUnder(seed) accepts every int value of seed", ConstructionTest::everySeed);
+        Answers.sentence("including 0, negative values, Integer.MIN_VALUE and Integer.MAX_VALUE",
+            ConstructionTest::seedsAtTheEnds);
+        Answers.sentence("pixel i is the low 16 bits of the int product seed * (i + 1)",
+            ConstructionTest::lowBitsOfTheProduct);
+        Answers.sentence("wrapping around on overflow", ConstructionTest::productsWrapAround);
+        Answers.sentence("with seed = 1 the pixels are 1, 2, 3, 4, 5, 6, 7, 8", ConstructionTest::seedOne);
+        Answers.sentence("with seed = -1 they are 65535, 65534, 65533, 65532, 65531, 65530, 65529, 65528",
+            ConstructionTest::seedMinusOne);
+        Answers.sentence("with seed = 0 all pixels are 0", ConstructionTest::seedZero);
+        Answers.sentence("with seed = 65536 all pixels are 0", ConstructionTest::seed65536);
+        Answers.sentence("No sprite is shown.", ConstructionTest::noSpriteIsShown);
+        Answers.sentence("A first call to hide() therefore answers -1 and changes nothing.",
+            ConstructionTest::firstHide);
         Answers.end();
     }
 }

@@ -43,7 +43,7 @@ public final class EverySequenceTest {
         }
     }
 
-    public static void main(String[] args) {
+    private static void everySequence() {
         int sequences = 1;
         for (int step = 0; step < LENGTH; step++) {
             sequences *= CALLS;
@@ -53,6 +53,10 @@ public final class EverySequenceTest {
                 runSequence(seed, code);
             }
         }
+    }
+
+    public static void main(String[] args) {
+        Answers.sentence("every sequence of " + LENGTH + " calls", EverySequenceTest::everySequence);
         Answers.end();
     }
 }

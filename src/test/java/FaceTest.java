@@ -20,21 +20,31 @@ public final class FaceTest {
         }
     }
 
-    public static void main(String[] args) {
-        Class<SaveUnder> program = SaveUnder.class;
+    private static void members() {
         Set<String> seen = new TreeSet<>();
-        for (Constructor<?> constructor : program.getDeclaredConstructors()) {
+        for (Constructor<?> constructor : SaveUnder.class.getDeclaredConstructors()) {
             addIfSeen(seen, constructor, constructor.toString());
         }
-        for (Method method : program.getDeclaredMethods()) {
+        for (Method method : SaveUnder.class.getDeclaredMethods()) {
             addIfSeen(seen, method, method.toString());
-        }
-        for (Field field : program.getDeclaredFields()) {
-            addIfSeen(seen, field, field.toString());
         }
         if (!seen.equals(FACE)) {
             Answers.fail("the face is " + seen + ", due is " + new TreeSet<>(FACE));
         }
+    }
+
+    private static void constants() {
+        Set<String> seen = new TreeSet<>();
+        for (Field field : SaveUnder.class.getDeclaredFields()) {
+            addIfSeen(seen, field, field.toString());
+        }
+        if (!seen.isEmpty()) {
+            Answers.fail("the fields that are not private are " + seen + ", none is due");
+        }
+    }
+
+    private static void theClassItself() {
+        Class<SaveUnder> program = SaveUnder.class;
         if (program.getModifiers() != (Modifier.PUBLIC | Modifier.FINAL)) {
             Answers.fail("the class is not public and final alone");
         }
@@ -44,6 +54,12 @@ public final class FaceTest {
         if (program.getDeclaredClasses().length != 0) {
             Answers.fail("the class has a nested class");
         }
+    }
+
+    public static void main(String[] args) {
+        Answers.sentence("public final class SaveUnder", FaceTest::theClassItself);
+        Answers.sentence("SaveUnder(int), show(int, int), hide() and peek(int) are the face", FaceTest::members);
+        Answers.sentence("The class has no public constants.", FaceTest::constants);
         Answers.end();
     }
 }
