@@ -27,7 +27,7 @@ final class Answers {
         void with(int value);
     }
 
-    // A sentence of the document, or the one case of it that is tested, in the document's words.
+    // A sentence of the document, or the one case of it that is tested.
     // It is told before the first wrong answer, so that a failure says what is broken.
     static void sentence(String words, Test test) {
         sentences++;
