@@ -57,7 +57,7 @@ public final class ShowTest {
         }
     }
 
-    // The answers of hide() here, 7, 3 and -1, are none that show may give.
+    // What hide() would answer here, 7, 3 or -1, is never what this show is to answer.
     private static void hidesAnswerIsDropped() {
         shownAt(7).show(0, 99, 4);
         shownAt(3).show(7, 99, 1);
